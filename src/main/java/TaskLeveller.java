@@ -500,7 +500,7 @@ public final class TaskLeveller {
         }
         int first = script.numberAt(index, 0);
         int second = script.numberAt(index, 1);
-        char fault = FINE;
+        char fault;
         switch (command) {
             case TASK:
                 return runAdding(first, second, script.numberAt(index, 2), script.numberAt(index, 3));
@@ -584,7 +584,7 @@ public final class TaskLeveller {
         int before = 0;
         for (int other = 0; other < project.count; other++) {
             int otherKey = at(keys, other);
-            if (otherKey < key || otherKey == key && other < task) {
+            if (otherKey < key || (otherKey == key && other < task)) {
                 before++;
             }
         }
@@ -673,7 +673,7 @@ public final class TaskLeveller {
     }
 
     private static boolean hasBit(int bits, int index) {
-        return (bits >> index & 1) == 1;
+        return ((bits >> index) & 1) == 1;
     }
 
     private static int at(int[] row, int index) {
@@ -826,12 +826,12 @@ public final class TaskLeveller {
             int lowerBits = (1 << task) - 1;
             for (int other = 0; other < count; other++) {
                 int bits = at(needs, other);
-                put(needs, other, bits & lowerBits | bits >> 1 & ~lowerBits);
+                put(needs, other, (bits & lowerBits) | ((bits >> 1) & ~lowerBits));
             }
         }
 
         private void link(int task, int needed) {
-            put(needs, task, at(needs, task) | 1 << needed);
+            put(needs, task, at(needs, task) | (1 << needed));
         }
 
         private void unlink(int task, int needed) {
@@ -855,7 +855,7 @@ public final class TaskLeveller {
             int direct = at(needs, task);
             for (int next = 0; next < TASKS; next++) {
                 if (hasBit(direct, next) && !hasBit(seen, next)) {
-                    seen = search(needs, next, seen | 1 << next, depth + 1);
+                    seen = search(needs, next, seen | (1 << next), depth + 1);
                 }
             }
             return seen;
@@ -960,8 +960,9 @@ public final class TaskLeveller {
                 return start;
             }
             start = at(project.releases, task);
+            int direct = at(project.needs, task);
             for (int needed = 0; needed < project.count; needed++) {
-                if (project.isLinked(task, needed)) {
+                if (hasBit(direct, needed)) {
                     int finish = earliestOf(project, known, needed, depth + 1) + at(project.durations, needed);
                     start = Math.max(start, finish);
                 }
@@ -993,8 +994,9 @@ public final class TaskLeveller {
         /** The lowest day that the release and the finishes of the needed tasks allow, by the given starts. */
         private static int soonestStart(Project project, int task, int[] starts) {
             int soonest = at(project.releases, task);
+            int direct = at(project.needs, task);
             for (int needed = 0; needed < project.count; needed++) {
-                if (project.isLinked(task, needed)) {
+                if (hasBit(direct, needed)) {
                     soonest = Math.max(soonest, at(starts, needed) + at(project.durations, needed));
                 }
             }
@@ -1046,10 +1048,11 @@ public final class TaskLeveller {
 
         private boolean fits(Project project, int task, int start) {
             int resource = at(project.resources, task);
+            int firstCell = resource * DAYS;
             int room = at(project.limits, resource) - at(project.demands, task);
             int finish = start + at(project.durations, task);
             for (int day = start; day < finish; day++) {
-                if (usedOn(resource, day) > room) {
+                if (at(used, firstCell + day) > room) {
                     return false;
                 }
             }
