@@ -87,6 +87,10 @@ public final class DependenciesTest {
                 check.equal(task + " on " + needed, needed > task, x.dependsByClosure(task, needed));
             }
         }
+        TaskLeveller up = tasks(3);
+        up.addDependency(1, 0);
+        up.addDependency(0, 2);
+        check.equal("over the first by closure", true, up.dependsByClosure(1, 2));
         x.removeDependency(5, 6);
         check.equal("over the gap by closure", false, x.dependsByClosure(0, 11));
         check.equal("before the gap by closure", true, x.dependsByClosure(0, 5));

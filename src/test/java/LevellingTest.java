@@ -147,6 +147,8 @@ public final class LevellingTest {
         check.equal("of 2", 0, x.peakUsage(2));
         x.removeTask(3);
         check.equal("of 1, no longer demanded", 0, x.peakUsage(1));
+        x.addTask(1, 1, 5, 0);
+        check.equal("on the first day alone", 5, x.peakUsage(1));
     }
 
     private static void workload() {

@@ -62,6 +62,9 @@ public final class StartsTest {
         check.equal("of two again", 3, x.lastTask());
         x.setRelease(4, 5);
         check.equal("another", 4, x.lastTask());
+        x.setRelease(0, 30);
+        x.removeDependency(1, 0);
+        check.equal("the first", 0, x.lastTask());
         check.promise(44, "meanSlack");
         check.equal("mean", (5.0 + 5.0 + 1.0 + 1.0 + 0.0) / 5.0, shifted().meanSlack());
         check.equal("mean", 1.0, sample().meanSlack());
@@ -87,6 +90,11 @@ public final class StartsTest {
         check.equal("the finish over the release", 14, x.earliestStart(2));
         x.setRelease(2, 20);
         check.equal("the release over the finish", 20, x.earliestStart(2));
+        check.promise(23, "earliestStartByRounds");
+        check.equal("the release over the finish", 20, x.earliestStartByRounds(2));
+        x.setRelease(2, 0);
+        check.equal("an earlier release again", 14, x.earliestStartByRounds(2));
+        x.setRelease(2, 20);
         check.promise(24, "latestStart");
         check.equal("of the first", 16, x.latestStart(0));
         check.promise(27, "projectLength");
@@ -116,8 +124,17 @@ public final class StartsTest {
         check.promise(48, "renderUsage");
         check.equal("the text", 138 + 137, x.renderUsage(0));
         check.promise(47, "renderTask");
-        check.equal("the text", "0:9x5r0@129!<1".length(), x.renderTask(0));
-        check.equal("the last character", '1', x.outputAt(13));
+        check.equal("three digits", "0:9x5r0@129!<1", text(x, x.renderTask(0)));
+        x.setDuration(11, 7);
+        check.equal("two zeros", "3:9x5r0@100!<4", text(x, x.renderTask(3)));
+    }
+
+    private static String text(TaskLeveller x, int length) {
+        StringBuilder text = new StringBuilder();
+        for (int index = 0; index < length; index++) {
+            text.append(x.outputAt(index));
+        }
+        return text.toString();
     }
 
     private static void withoutTasks() {

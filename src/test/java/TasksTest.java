@@ -12,6 +12,7 @@ public final class TasksTest {
         addTask();
         addTaskWrongly();
         removeTask();
+        removeFromFull();
         setDuration();
         setRelease();
         setLimit();
@@ -115,6 +116,27 @@ public final class TasksTest {
         check.equal("the first", 2, x.removeTask(0));
         check.equal("again", 1, x.removeTask(0));
         check.equal("to none", 0, x.removeTask(0));
+    }
+
+    private static void removeFromFull() {
+        check.promise(3, "removeTask");
+        TaskLeveller x = new TaskLeveller();
+        for (int task = 0; task < 12; task++) {
+            x.addTask(task % 9 + 1, 0, 1, task);
+        }
+        x.addDependency(11, 0);
+        x.addDependency(11, 5);
+        check.equal("tasks after the call", 11, x.removeTask(5));
+        check.equal("the last moved down", 11, x.release(10));
+        check.equal("its duration", 3, x.duration(10));
+        check.equal("its dependencies", 1, x.neededCount(10));
+        check.equal("the last", 10, x.removeTask(10));
+        check.promise(2, "addTask");
+        x.addTask(1, 0, 1, 0);
+        x.addTask(1, 0, 1, 0);
+        check.equal("without dependencies", 0, x.neededCount(10));
+        check.equal("without dependencies", 0, x.neededCount(11));
+        check.equal("without dependents", 0, x.dependentCount(0));
     }
 
     private static void setDuration() {
