@@ -29,6 +29,10 @@ final class Check {
         equal(what, "throws " + due.getSimpleName(), outcome(call));
     }
 
+    int wrong() {
+        return wrong;
+    }
+
     static Object outcome(Call call) {
         try {
             return call.answer();
