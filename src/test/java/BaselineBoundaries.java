@@ -63,7 +63,7 @@ final class BaselineBoundaries {
         empty.addTask(1, 0, 1, 0);
         Boundaries.refuses("with a baseline without starts", Boundaries.NOTHING, () -> ask.of(empty, 0));
         Boundaries.changesNothing(Boundaries.NOTHING, y -> ask.of(y, 3));
-        Twins.refused(Boundaries.check, y -> y.addTask(2, 1, 3, 4), Boundaries.NOTHING, y -> ask.of(y, 0));
+        Twins.refused(Boundaries.check, Make::plain, Boundaries.NOTHING, y -> ask.of(y, 0));
     }
 
     private static void negative() {
@@ -132,6 +132,6 @@ final class BaselineBoundaries {
         Boundaries.accepts("with a baseline", x::totalDrift);
         x.undo();
         Boundaries.refuses("after undo", Boundaries.NOTHING, x::totalDrift);
-        Twins.refused(Boundaries.check, y -> y.addTask(2, 1, 3, 4), Boundaries.NOTHING, y -> y.totalDrift());
+        Twins.refused(Boundaries.check, Make::plain, Boundaries.NOTHING, y -> y.totalDrift());
     }
 }

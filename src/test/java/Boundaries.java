@@ -30,7 +30,7 @@ final class Boundaries {
 
     private final Document document;
     private final Set<String> tested = new TreeSet<>();
-    private final List<String> broken = new ArrayList<>();
+    private int broken = 0;
 
     Boundaries() throws IOException {
         document = new Document();
@@ -51,18 +51,19 @@ final class Boundaries {
     }
 
     private void hold(String section, String promise, String sentence, Runnable test) {
-        String told = promise + ", \"" + Document.plain(sentence) + "\"";
+        String plain = Document.plain(sentence);
+        String told = promise + ", \"" + plain + "\"";
         check.about(told);
         int before = check.wrong();
-        check.equal("whether the document has the sentence", true, document.has(section, sentence));
-        check.equal("whether it is the sentence's only test", true, tested.add(section + ": " + Document.plain(sentence)));
+        check.equal("whether the document has the sentence", true, document.of(section).contains(plain));
+        check.equal("whether it is the sentence's only test", true, tested.add(section + ": " + plain));
         check.equal("the test", "ended", Check.outcome(() -> {
             test.run();
             return "ended";
         }));
-        if (check.wrong() > before) {
-            broken.add(told);
-        }
+        boolean holds = check.wrong() == before;
+        System.out.println((holds ? "holds  " : "BROKEN ") + told);
+        broken += holds ? 0 : 1;
     }
 
     /** The sentences without a test, of all sections that promise something. */
@@ -80,10 +81,7 @@ final class Boundaries {
     }
 
     void tell() {
-        for (String sentence : broken) {
-            System.out.println("BROKEN " + sentence);
-        }
-        System.out.println(tested.size() + " sentences with a test of their own, " + broken.size() + " broken");
+        System.out.println(tested.size() + " sentences with a test of their own, " + broken + " broken");
     }
 
     static void equal(String what, Object due, Object got) {

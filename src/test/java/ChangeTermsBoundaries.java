@@ -26,7 +26,7 @@ final class ChangeTermsBoundaries {
     private static List<Consumer<TaskLeveller>> idleChanges() {
         return List.of(x -> x.addDependency(1, 0), x -> x.removeDependency(0, 1), x -> x.setLimit(0, 6),
                 x -> x.setDuration(2, 5), x -> x.setRelease(0, 2), x -> Make.run(x, "limit 1 7"),
-                x -> Make.run(x, "unlink 0>1;link 1>0"), x -> Make.run(x, "drop 3;task 1 2 2 7;link 3>1"));
+                x -> Make.run(x, "unlink 0>1;link 1>0"), x -> Make.run(x, "drop 3;task 1 1 2 7;link 3>1"));
     }
 
     private static List<Consumer<TaskLeveller>> realChanges() {
@@ -103,24 +103,22 @@ final class ChangeTermsBoundaries {
     }
 
     private static void covered() {
-        TaskLeveller base = restored();
-        Boundaries.equal("the busy object has tasks", 4, base.taskCount());
         for (Consumer<TaskLeveller> change : realChanges()) {
-            Consumer<TaskLeveller> made = x -> {
-                Make.busy(x);
+            // The questions in between show what is reckoned too early.
+            Consumer<TaskLeveller> asked = change.andThen(x -> x.isConsistent());
+            for (Consumer<TaskLeveller> made : List.<Consumer<TaskLeveller>>of(Make::plain, Make::busy)) {
+                Consumer<TaskLeveller> base = made.andThen(x -> Make.run(x, "?"));
+                Twins.same(Boundaries.check, "restore leaves something of a change:",
+                        base.andThen(x -> x.save()).andThen(asked).andThen(x -> x.restore()),
+                        base.andThen(x -> x.save()).andThen(x -> x.restore()));
+            }
+            // A plain object has less than eight changes, so undo leaves those that it had before.
+            Consumer<TaskLeveller> plain = x -> {
+                Make.plain(x);
                 Make.run(x, "?");
             };
-            Twins.same(Boundaries.check, "undo leaves something of a change:", made.andThen(change).andThen(x -> {
-                x.undo();
-                x.save();
-                x.restore();
-            }), made.andThen(x -> {
-                x.save();
-                x.restore();
-            }));
-            Twins.same(Boundaries.check, "restore leaves something of a change:",
-                    made.andThen(x -> x.save()).andThen(change).andThen(x -> x.restore()),
-                    made.andThen(x -> x.save()).andThen(x -> x.restore()));
+            Twins.same(Boundaries.check, "undo leaves something of a change:",
+                    plain.andThen(asked).andThen(x -> x.undo()), plain);
         }
         notCovered(x -> x.undo());
         notCovered(x -> x.restore());
@@ -179,12 +177,12 @@ final class ChangeTermsBoundaries {
         Twins.refused(Boundaries.check, full, Boundaries.STATE, x -> x.addTask(1, 0, 1, 0));
         Twins.refused(Boundaries.check, full, Boundaries.INDEX, x -> x.removeTask(12));
         Twins.refused(Boundaries.check, full, Boundaries.INDEX, x -> x.renderTask(12));
-        Consumer<TaskLeveller> fresh = x -> x.setLimit(1, 7);
-        Twins.refused(Boundaries.check, fresh, Boundaries.NOTHING, x -> x.totalDrift());
-        Twins.refused(Boundaries.check, fresh, Boundaries.STATE, x -> x.restore());
-        Twins.refused(Boundaries.check, fresh, Boundaries.ARITHMETIC, x -> x.meanSlack());
-        Twins.refused(Boundaries.check, fresh, Boundaries.NOTHING, x -> x.errorPosition());
-        Twins.refused(Boundaries.check, fresh, Boundaries.NOTHING, x -> x.failedCommand());
+        Twins.refused(Boundaries.check, Make::plain, Boundaries.NOTHING, x -> x.totalDrift());
+        Twins.refused(Boundaries.check, Make::plain, Boundaries.STATE, x -> x.restore());
+        Twins.refused(Boundaries.check, Make::plain, Boundaries.NOTHING, x -> x.errorPosition());
+        Twins.refused(Boundaries.check, Make::plain, Boundaries.NOTHING, x -> x.failedCommand());
+        Twins.refused(Boundaries.check, Make::emptied, Boundaries.ARITHMETIC, x -> x.meanSlack());
+        Twins.refused(Boundaries.check, Make::emptied, Boundaries.NOTHING, x -> x.lastTask());
         // The description of runScript says otherwise: its buffer is empty afterwards.
         TaskLeveller x = Make.busy();
         Boundaries.refuses("a script that ends too early", Boundaries.ARGUMENT, x::runScript);
@@ -208,7 +206,8 @@ final class ChangeTermsBoundaries {
         Boundaries.refuses("setRelease, both wrong without tasks", Boundaries.INDEX, () -> none.setRelease(0, -1));
         Boundaries.refuses("addDependency, 0 twice without tasks", Boundaries.INDEX, () -> none.addDependency(0, 0));
         Make.type(none, "?".repeat(60));
-        Boundaries.refuses("type, a wrong character and a full buffer", Boundaries.ARGUMENT, () -> none.type((char) 31));
+        Boundaries.refuses("type, a wrong character and a full buffer", Boundaries.ARGUMENT,
+                () -> none.type((char) 31));
         Boundaries.refuses("type, a full buffer alone", Boundaries.STATE, () -> none.type(' '));
         Boundaries.refuses("runScript, a wrong form alone", Boundaries.ARGUMENT, none::runScript);
         Make.type(none, "drop 0;?");

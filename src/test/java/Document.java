@@ -29,10 +29,6 @@ final class Document {
         return sections.getOrDefault(section, List.of());
     }
 
-    boolean has(String section, String sentence) {
-        return of(section).contains(plain(sentence));
-    }
-
     /** The text with one blank between words and without the full stop. */
     static String plain(String text) {
         return text.trim().replaceAll("\\s+", " ").replaceAll("\\.$", "");

@@ -10,8 +10,8 @@ final class LevellingBoundaries {
         sentences.promise(32, "Returns the number of units, 0 for a day after the levelled length.",
                 () -> afterTheLength((x, resource, day) -> x.usage(resource, day)));
         sentences.promise(32, NO_RESOURCE_OR_DAY, () -> wrongUsage((x, resource, day) -> x.usage(resource, day)));
-        sentences.promise(33, "Returns the same number as usage, found by asking each task whether it is worked on that "
-                + "day.", () -> afterTheLength((x, resource, day) -> x.usageByTasks(resource, day)));
+        sentences.promise(33, "Returns the same number as usage, found by asking each task whether it is worked on "
+                + "that day.", () -> afterTheLength((x, resource, day) -> x.usageByTasks(resource, day)));
         sentences.promise(33, NO_RESOURCE_OR_DAY,
                 () -> wrongUsage((x, resource, day) -> x.usageByTasks(resource, day)));
         sentences.promise(34, "Returns the greatest usage of a resource on any day.", LevellingBoundaries::peaks);
@@ -26,7 +26,8 @@ final class LevellingBoundaries {
         sentences.promise(36, NO_RESOURCE, () -> Boundaries.noSuchResource((x, resource) -> x.workload(resource)));
         sentences.promise(37, "Returns the same sum as workload, found by adding the usage of all days.",
                 () -> sums((x, resource) -> x.workloadByDays(resource)));
-        sentences.promise(37, NO_RESOURCE, () -> Boundaries.noSuchResource((x, resource) -> x.workloadByDays(resource)));
+        sentences.promise(37, NO_RESOURCE,
+                () -> Boundaries.noSuchResource((x, resource) -> x.workloadByDays(resource)));
     }
 
     private static void days(String what, TaskLeveller x, Boundaries.AskTwo ask, int resource, int... daysAndUnits) {
@@ -55,6 +56,22 @@ final class LevellingBoundaries {
         longest.setLimit(2, 5);
         days("the longest project", longest, ask, 2, due);
         days("the longest project", longest, ask, 1, 0, 0, 30, 0, 137, 0, 138, 0);
+        for (int resource = 0; resource < 3; resource++) {
+            TaskLeveller full = everyDay();
+            for (int day = 39; day < 450; day++) {
+                Boundaries.equal("resource " + resource + " on " + day, 0, ask.of(full, resource, day));
+            }
+        }
+    }
+
+    /** Each resource is demanded on every day from 0 to 35. */
+    private static TaskLeveller everyDay() {
+        TaskLeveller x = new TaskLeveller();
+        for (int task = 0; task < 12; task++) {
+            x.addTask(9, task % 3, 5, task / 3 * 9);
+        }
+        Boundaries.equal("the length", 36, x.levelledLength());
+        return x;
     }
 
     private static void wrongUsage(Boundaries.AskTwo ask) {

@@ -39,16 +39,19 @@ final class Make {
         return x;
     }
 
-    /** Something of everything: more than 8 changes, a baseline, a snapshot, a wrong script and a failed one. */
+    /**
+     * Something of everything: more than 8 changes, a baseline, a snapshot, a wrong script and a failed one. The limit
+     * sets its tasks 0 to 2 apart, and 3 has no baseline start.
+     */
     static void busy(TaskLeveller x) {
         x.addTask(3, 0, 4, 0);
         x.addTask(2, 0, 3, 1);
-        x.addTask(4, 1, 5, 2);
+        x.addTask(4, 0, 5, 2);
         x.addDependency(1, 0);
         x.takeBaseline();
         x.save();
         x.setLimit(0, 6);
-        x.addTask(1, 2, 2, 7);
+        x.addTask(1, 1, 2, 7);
         x.setRelease(0, 2);
         x.addDependency(3, 1);
         x.setDuration(2, 5);
@@ -63,6 +66,26 @@ final class Make {
         TaskLeveller x = new TaskLeveller();
         busy(x);
         return x;
+    }
+
+    /** Fewer than 8 changes, a text and a script half typed; no baseline, no snapshot, and no script that was run. */
+    static void plain(TaskLeveller x) {
+        x.addTask(3, 0, 4, 0);
+        x.addTask(2, 0, 3, 1);
+        x.addTask(4, 0, 5, 2);
+        x.addDependency(1, 0);
+        x.setLimit(0, 6);
+        x.setDuration(2, 5);
+        x.renderTask(1);
+        type(x, "ma");
+    }
+
+    /** A busy object all of whose tasks are gone. */
+    static void emptied(TaskLeveller x) {
+        busy(x);
+        while (x.taskCount() > 0) {
+            x.removeTask(0);
+        }
     }
 
     static void type(TaskLeveller x, String script) {

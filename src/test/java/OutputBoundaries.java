@@ -46,10 +46,23 @@ final class OutputBoundaries {
         description("0:9x1r0@29", x, 0);
         x.setRelease(0, 30);
         description("0:9x1r0@30!", x, 0);
+        x.setLimit(1, 5);
+        x.addTask(9, 1, 5, 30);
+        x.addTask(9, 1, 5, 30);
+        description("2:9x5r1@30!", x, 2);
+        description("3:9x5r1@39!", x, 3);
         TaskLeveller all = Make.triangle(12);
         description("0:1x1r0@0!", all, 0);
         description("1:1x1r0@1!<0", all, 1);
         description("11:1x1r0@11!<0<1<2<3<4<5<6<7<8<9<10", all, 11);
+        TaskLeveller down = Make.tasks(12);
+        for (int needed = 11; needed > 8; needed--) {
+            down.addDependency(0, needed);
+        }
+        description("0:1x1r0@1!<9<10<11", down, 0);
+        down.addDependency(9, 10);
+        description("0:1x1r0@2!<9<10<11", down, 0);
+        description("11:1x1r0@0", down, 11);
         TaskLeveller chain = Make.chain(12, 9, 30);
         description("11:9x5r0@129!<10", chain, 11);
         chain.setDuration(0, 7);
@@ -125,6 +138,8 @@ final class OutputBoundaries {
         Boundaries.equal("of many days with two digits", 30 * 2 + 54 * 3 - 1, tens(12).renderUsage(0));
         TaskLeveller x = Make.chain(12, 9, 30);
         x.renderUsage(0);
+        Boundaries.equal("of the same once more", 275, x.renderUsage(0));
+        Boundaries.equal("of another resource's", 275, x.renderUsage(1));
         Boundaries.equal("of one task behind it", 13, x.renderTask(1));
         Boundaries.refuses("what the longer one had behind that", Boundaries.INDEX, () -> x.outputAt(13));
     }

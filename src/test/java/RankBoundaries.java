@@ -123,7 +123,7 @@ final class RankBoundaries {
         Boundaries.refuses("when it has gone", Boundaries.ARITHMETIC, () -> ask.of(x, 0));
         x.undo();
         Boundaries.accepts("when it is back", () -> ask.of(x, 0));
-        Twins.refused(Boundaries.check, y -> y.setLimit(0, 7), Boundaries.ARITHMETIC, y -> ask.of(y, 0));
+        Twins.refused(Boundaries.check, Make::emptied, Boundaries.ARITHMETIC, y -> ask.of(y, 0));
     }
 
     private static void quotients() {

@@ -114,7 +114,8 @@ final class ScriptBoundaries {
             Boundaries.equal(count + " commands", count, Make.run(x, TWELVE_MARKS.substring(0, 5 * count - 1)));
         }
         Boundaries.equal("after a longer script", 1, Make.run(x, "mark"));
-        Boundaries.equal("four of the longest", 4, Make.run(x, "task 1 0 1 10;task 1 0 1 10;task 1 0 1 10;task 1 0 1 10"));
+        String longest = "task 1 0 1 10";
+        Boundaries.equal("four of the longest", 4, Make.run(x, longest + (";" + longest).repeat(3)));
     }
 
     private static void wrongForm() {
@@ -123,7 +124,8 @@ final class ScriptBoundaries {
         Boundaries.equal("its error position", 0, x.errorPosition());
         Boundaries.equal("one that ends too early", "throws IllegalArgumentException", Make.run(x, "mar"));
         Boundaries.equal("its error position", 3, x.errorPosition());
-        Boundaries.equal("one with a letter too many", "throws IllegalArgumentException", Make.run(x, "task 1 0 1 0;markk"));
+        Boundaries.equal("one with a letter too many", "throws IllegalArgumentException",
+                Make.run(x, "task 1 0 1 0;markk"));
         Boundaries.equal("its error position", 17, x.errorPosition());
         Boundaries.equal("nothing was done", 0, x.taskCount());
         Boundaries.refuses("nothing can be undone", Boundaries.STATE, x::undo);
@@ -132,6 +134,12 @@ final class ScriptBoundaries {
                 Make.run(x, "drop 0;mark;"));
         Boundaries.equal("its error position", 12, x.errorPosition());
         Boundaries.refuses("still no failure is kept", Boundaries.NOTHING, x::failedCommand);
+        TaskLeveller busy = Make.busy();
+        String text = Make.text(busy);
+        Boundaries.refuses("the script of a busy object", Boundaries.ARGUMENT, busy::runScript);
+        Boundaries.equal("the output text", text, Make.text(busy));
+        Boundaries.equal("the failed command", 0, busy.failedCommand());
+        Boundaries.equal("its reason", 'i', busy.failureReason());
         Twins.same(Boundaries.check, "besides the buffer and the error position, something changes:", y -> {
             Make.busy(y);
             Boundaries.equal("the wrong script", "throws IllegalArgumentException", Make.run(y, "rk;drop 0;drop 9;"));
@@ -161,6 +169,12 @@ final class ScriptBoundaries {
         Boundaries.equal("no limit was set", 10, x.limit(0));
         fails(x, 10, 'i', "mark;".repeat(10) + "drop 0");
         Boundaries.refuses("nothing can be undone", Boundaries.STATE, x::undo);
+        Boundaries.refuses("no error position is kept", Boundaries.NOTHING, x::errorPosition);
+        TaskLeveller busy = Make.busy();
+        String text = Make.text(busy);
+        fails(busy, 1, 'a', "rk;limit 0 4");
+        Boundaries.equal("the output text", text, Make.text(busy));
+        Boundaries.equal("the error position", 5, busy.errorPosition());
         Twins.same(Boundaries.check, "besides the buffer and the failure, something changes:", y -> {
             Make.busy(y);
             fails(y, 2, 'a', "rk;drop 0;delay 0 31");
@@ -172,7 +186,7 @@ final class ScriptBoundaries {
         });
         Twins.same(Boundaries.check, "a failing script that does much changes something:", y -> {
             Make.busy(y);
-            fails(y, 4, 'u', "rk;resize 0 9;delay 1 9;limit 1 20;link 0>3;drop 0;mark");
+            fails(y, 4, 'u', "rk;resize 0 9;delay 1 9;mark;link 0>3;drop 0;limit 1 20");
             Make.type(y, "ma");
         }, y -> {
             Make.busy(y);
@@ -212,6 +226,7 @@ final class ScriptBoundaries {
         Boundaries.refuses("before a wrong script is run", Boundaries.NOTHING, x::errorPosition);
         Boundaries.refuses("a wrong script", Boundaries.ARGUMENT, x::runScript);
         Boundaries.equal("after a script that was wrong from index 0 on", 0, x.errorPosition());
+        Twins.refused(Boundaries.check, Make::plain, Boundaries.NOTHING, y -> y.errorPosition());
         Twins.refused(Boundaries.check, y -> Make.run(y, "task 1 0 1 0;mark"), Boundaries.NOTHING,
                 y -> y.errorPosition());
     }
@@ -251,6 +266,7 @@ final class ScriptBoundaries {
         Boundaries.equal("after a script whose first command failed", first, ask.of(x, 0));
         Make.run(x, "mark;limit 3 5");
         Boundaries.equal("after a script whose second command failed", second, ask.of(x, 0));
+        Twins.refused(Boundaries.check, Make::plain, Boundaries.NOTHING, y -> ask.of(y, 0));
         Twins.refused(Boundaries.check, y -> Make.run(y, "task 1 0 1 0;mar"), Boundaries.NOTHING, y -> ask.of(y, 0));
     }
 

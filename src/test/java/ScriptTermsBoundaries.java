@@ -60,7 +60,8 @@ final class ScriptTermsBoundaries {
     private static void scripts() {
         hasForm(true, "mark", "mark;mark", "drop 0;mark", "mark;drop 0", "drop 10;drop 1", TWELVE_MARKS);
         hasForm(false, "", ";", ";;", ";mark", "mark;", "mark;;mark", "mark;mark;", "mark; mark", "mark ;mark", " mark",
-                "mark ", "mark,mark", "mark mark", "markmark", "mark:mark", "drop 1drop 1", "drop 1;;", TWELVE_MARKS + ";");
+                "mark ", "mark,mark", "mark mark", "markmark", "mark:mark", "drop 1drop 1", "drop 1;;",
+                TWELVE_MARKS + ";");
     }
 
     private static void commands() {
@@ -100,23 +101,23 @@ final class ScriptTermsBoundaries {
 
     private static void repetitions() {
         hasForm(true, "mark", "mark;mark", "mark;mark;mark", "mark;mark;mark;mark;mark;mark;mark;mark;mark;mark;mark",
-                "delay 1 1", "delay 11 1", "delay 1 11", "delay 11 11", "link 1>1", "unlink 1>1", "link 1>1;unlink 1>1");
+                "delay 1 1", "delay 11 1", "delay 1 11", "delay 11 11", "link 1>1", "unlink 1>1",
+                "link 1>1;unlink 1>1");
         hasForm(false, "{mark}", "mark{;mark}", "delay [1] 1", "(link 1>1", "(link )1>1", "linkunlink 1>1",
                 "link unlink 1>1", "ununlink 1>1", "un link 1>1", "mark|mark", "drop 1|mark", "limitresize 1 1", "un");
     }
 
+    /** The script must do the same as the call; the base takes away what a busy object's buffer holds. */
     private static void same(Consumer<TaskLeveller> direct, String script) {
         Consumer<TaskLeveller> base = x -> {
             Make.busy(x);
             Make.run(x, "?");
         };
-        Object due = script.chars().filter(sign -> sign == ';').count() + 1;
         Twins.same(Boundaries.check, "\"" + script + "\" differs from the call:",
-                base.andThen(x -> Boundaries.equal(script, due.toString(), "" + Make.run(x, script))),
+                base.andThen(x -> Boundaries.equal("\"" + script + "\"", 1, Make.run(x, script))),
                 base.andThen(direct));
     }
 
-    /** The buffer of a busy object holds no whole script; the base takes it away. */
     private static void sameCalls() {
         same(x -> x.addTask(1, 0, 1, 0), "task 1 0 1 0");
         same(x -> x.addTask(9, 2, 5, 30), "task 9 2 5 30");
@@ -150,14 +151,15 @@ final class ScriptTermsBoundaries {
         Boundaries.equal("the duration of the one that is left", 3, x.duration(0));
         Boundaries.equal("drop, drop of one", "throws IllegalStateException", Make.run(x, "drop 0;drop 0"));
         Boundaries.equal("the tasks after it", 1, x.taskCount());
-        Boundaries.equal("task behind a failing one", "throws IllegalStateException", Make.run(x, "drop 1;task 1 0 1 0"));
+        Boundaries.equal("task behind a failing one", "throws IllegalStateException",
+                Make.run(x, "drop 1;task 1 0 1 0"));
         Boundaries.equal("the tasks after it", 1, x.taskCount());
         Make.addTasks(x, 11);
         Boundaries.equal("drop, task when full", 2, Make.run(x, "drop 0;task 4 0 1 0"));
         Boundaries.equal("the last one", 4, x.duration(11));
         Boundaries.equal("task, drop when full", "throws IllegalStateException", Make.run(x, "task 5 0 1 0;drop 0"));
         Boundaries.equal("the last one", 4, x.duration(11));
-        String much = "rk;drop 0;task 9 0 5 0;limit 0 5;link 0>3;delay 0 9;drop 4";
+        String much = "rk;drop 0;task 9 0 5 0;limit 0 5;mark;delay 0 9;drop 4";
         Twins.same(Boundaries.check, "a failing script takes effect:", y -> {
             Make.busy(y);
             Boundaries.equal("the failing script", "throws IllegalStateException", Make.run(y, much));
@@ -175,8 +177,8 @@ final class ScriptTermsBoundaries {
     private static void errorPositions() {
         wrongAt(0, "");
         String[] scripts = {"task 1 0 1 10", "drop 10", "link 10>10", "unlink 10>10", "limit 0 10", "resize 10 1",
-            "delay 10 10", "mark", "mark;task 1 0 1 10;drop 10;link 10>10", "unlink 1>0;limit 0 9;resize 1 1;delay 1 1;mark",
-            TWELVE_MARKS};
+            "delay 10 10", "mark", "mark;task 1 0 1 10;drop 10;link 10>10",
+            "unlink 1>0;limit 0 9;resize 1 1;delay 1 1;mark", TWELVE_MARKS};
         for (String script : scripts) {
             for (int place = 0; place <= script.length(); place++) {
                 String before = script.substring(0, place);
@@ -206,8 +208,8 @@ final class ScriptTermsBoundaries {
     /** Whether the text ends with a whole command. */
     private static boolean endsWell(String text) {
         String last = text.substring(text.lastIndexOf(';') + 1);
-        return last.matches("mark|.*[a-z] [0-9]+[ >][0-9]+|drop [0-9]+|task . . . [0-9]+")
-                && !last.matches("task . .");
+        return last.matches("task \\d \\d \\d \\d+|drop \\d+|(un)?link \\d+>\\d+|limit \\d \\d+|resize \\d+ \\d"
+                + "|delay \\d+ \\d+|mark");
     }
 
     private static void keptFailures() {

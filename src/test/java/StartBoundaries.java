@@ -120,7 +120,7 @@ final class StartBoundaries {
         Boundaries.refuses("when it has gone", Boundaries.NOTHING, x::lastTask);
         x.undo();
         Boundaries.equal("when it is back", 0, x.lastTask());
-        Twins.refused(Boundaries.check, y -> y.setLimit(0, 7), Boundaries.NOTHING, y -> y.lastTask());
+        Twins.refused(Boundaries.check, Make::emptied, Boundaries.NOTHING, y -> y.lastTask());
     }
 
     private static void levelledLengths() {

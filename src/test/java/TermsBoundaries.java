@@ -74,10 +74,19 @@ final class TermsBoundaries {
     private static void manyCalls() {
         TaskLeveller x = Make.triangle(12);
         // Twelve tasks and 66 dependencies were 78 calls.
-        for (int call = 79; call < 512; call++) {
-            x.setDuration(0, call % 9 + 1);
+        for (int call = 79; call < 511; call += 2) {
+            int duration = call % 9 + 1;
+            x.setDuration(0, duration);
+            Boundaries.equal("call " + (call + 1), duration + 10, x.levelledStart(11));
         }
-        Boundaries.equal("the 512th call", 511 % 9 + 1 + 10, x.levelledStart(11));
+        Boundaries.equal("the 511th call", 7, x.undo());
+        Boundaries.equal("the 512th call", 507 % 9 + 1 + 10, x.levelledStart(11));
+        TaskLeveller changed = Make.tasks(1);
+        for (int call = 2; call < 511; call++) {
+            changed.setDuration(0, call % 9 + 1);
+        }
+        Boundaries.equal("the 511th call behind 510 changes", 7, changed.undo());
+        Boundaries.equal("the 512th call behind them", 509 % 9 + 1, changed.duration(0));
         TaskLeveller typed = new TaskLeveller();
         for (int round = 0; round < 8; round++) {
             Make.type(typed, "mark;mark;mark;mark;mark;mark;mark;mark;mark;mark;mark;mark?");
@@ -188,6 +197,15 @@ final class TermsBoundaries {
                 Boundaries.equal("when " + gone + " has gone, the dependents of " + task, 10 - task,
                         all.dependentCount(task));
             }
+            TaskLeveller down = Make.tasks(12);
+            for (int task = 0; task < 11; task++) {
+                down.addDependency(task, 11);
+            }
+            down.removeTask(gone);
+            Boundaries.equal("when " + gone + " has gone, what 0 needs", gone < 11 ? 1 : 0, down.neededCount(0));
+            Boundaries.equal("when " + gone + " has gone, what 9 needs", gone < 11 ? 1 : 0, down.neededCount(9));
+            Boundaries.equal("when " + gone + " has gone, the dependents of 10", gone < 11 ? 10 : 0,
+                    down.dependentCount(10));
             TaskLeveller chain = Make.chain(12, 1, 0);
             chain.removeTask(gone);
             for (int task = 1; task < 11; task++) {
@@ -288,9 +306,10 @@ final class TermsBoundaries {
         x.setDuration(0, 1);
         x.setRelease(0, 0);
         Boundaries.equal("of the shortest one, released at once", 38, x.slack(0));
-        for (int task = 0; task < 2; task++) {
-            Boundaries.equal("latest minus earliest", x.latestStart(task) - x.earliestStart(task), x.slack(task));
-        }
+        x.setLimit(0, 5);
+        x.addTask(5, 0, 5, 0);
+        Boundaries.equal("the levelled start by another task", 5, x.levelledStart(0));
+        Boundaries.equal("the slack, not by the levelled start", 38, x.slack(0));
     }
 
     private static void critical() {
@@ -393,6 +412,7 @@ final class TermsBoundaries {
         x.setDuration(2, 1);
         x.setRelease(1, 0);
         starts("the limit behind the needed finish", x, 0, 2, 0);
+        levelledNeeds();
         TaskLeveller y = new TaskLeveller();
         y.setLimit(2, 5);
         y.addTask(9, 2, 5, 30);
@@ -414,6 +434,22 @@ final class TermsBoundaries {
         other.addTask(1, 1, 5, 0);
         other.addTask(1, 2, 5, 0);
         starts("another resource does not count", other, 0, 0, 0);
+    }
+
+    private static void levelledNeeds() {
+        TaskLeveller x = new TaskLeveller();
+        x.setLimit(0, 5);
+        x.addTask(4, 0, 5, 0);
+        x.addTask(4, 0, 5, 0);
+        x.addTask(1, 1, 5, 3);
+        x.addDependency(2, 1);
+        x.addDependency(2, 0);
+        Boundaries.equal("the earliest start behind two", 4, x.earliestStart(2));
+        starts("the needed levelled finish behind the earliest one", x, 0, 4, 8);
+        x.setRelease(2, 8);
+        starts("the needed levelled finish and the release", x, 0, 4, 8);
+        x.setRelease(2, 9);
+        starts("the release behind the needed levelled finish", x, 0, 4, 9);
     }
 
     private static void levelledFinish() {
@@ -482,6 +518,13 @@ final class TermsBoundaries {
         TaskLeveller first = Make.tasks(1);
         first.takeBaseline();
         Boundaries.equal("day 0 is a start", 0, first.baselineStart(0));
+        TaskLeveller between = new TaskLeveller();
+        between.setLimit(0, 5);
+        between.addTask(9, 0, 5, 0);
+        between.addTask(1, 0, 5, 0);
+        between.addTask(9, 1, 5, 30);
+        between.takeBaseline();
+        Boundaries.equal("a start behind the earliest and before the latest one", 9, between.baselineStart(1));
     }
 
     private static void noBaseline() {

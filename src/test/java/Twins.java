@@ -63,7 +63,8 @@ final class Twins {
         return all;
     }
 
-    private static void part(List<String> all, Consumer<TaskLeveller> recipe, BiConsumer<Twins, TaskLeveller> questions) {
+    private static void part(List<String> all, Consumer<TaskLeveller> recipe,
+            BiConsumer<Twins, TaskLeveller> questions) {
         Twins twins = new Twins(new TaskLeveller());
         recipe.accept(twins.x);
         questions.accept(twins, twins.x);

@@ -200,6 +200,7 @@ final class UndoBoundaries {
         TaskLeveller empty = new TaskLeveller();
         empty.save();
         Boundaries.equal("with a snapshot without tasks", 0, empty.restore());
+        Twins.refused(Boundaries.check, Make::plain, Boundaries.STATE, y -> y.restore());
         Twins.refused(Boundaries.check, y -> Make.addTasks(y, 10), Boundaries.STATE, y -> y.restore());
     }
 }
