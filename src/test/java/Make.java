@@ -83,7 +83,7 @@ final class Make {
     /** A busy object all of whose tasks are gone. */
     static void emptied(TaskLeveller x) {
         busy(x);
-        while (x.taskCount() > 0) {
+        for (int task = 0; task < 4; task++) {
             x.removeTask(0);
         }
     }
@@ -99,14 +99,17 @@ final class Make {
         return Check.outcome(x::runScript);
     }
 
-    /** The output text, read up to the first index that is refused. */
+    /** The output text, read up to the first index that is refused; a text without an end is cut off. */
     static String text(TaskLeveller x) {
         StringBuilder text = new StringBuilder();
-        Object sign = Check.outcome(() -> x.outputAt(0));
-        while (sign instanceof Character) {
+        for (int place = 0; place < 450; place++) {
+            int index = place;
+            Object sign = Check.outcome(() -> x.outputAt(index));
+            if (!(sign instanceof Character)) {
+                return text.toString();
+            }
             text.append(sign);
-            sign = Check.outcome(() -> x.outputAt(text.length()));
         }
-        return text.toString();
+        return text + "..";
     }
 }
