@@ -13,6 +13,7 @@ public final class TasksTest {
         addTaskWrongly();
         removeTask();
         removeFromFull();
+        removedTasksLeaveNothing();
         setDuration();
         setRelease();
         setLimit();
@@ -137,6 +138,47 @@ public final class TasksTest {
         check.equal("without dependencies", 0, x.neededCount(10));
         check.equal("without dependencies", 0, x.neededCount(11));
         check.equal("without dependents", 0, x.dependentCount(0));
+    }
+
+    /** A full project from which tasks are removed answers as one in which they never were. */
+    private static void removedTasksLeaveNothing() {
+        check.promise(3, "removeTask, what is left");
+        int[] kept = {0, 0x001, 0x800, 0x7ff, 0xffe, 0x0ff, 0xf00, 0x555, 0xaaa};
+        for (int days : new int[] {1, 4}) {
+            for (int left : kept) {
+                Twins.same(check, "with the tasks " + Integer.toBinaryString(left) + " left,",
+                        x -> shrunk(x, days, left), x -> grown(x, days, left));
+            }
+        }
+    }
+
+    private static void shrunk(TaskLeveller x, int days, int left) {
+        grown(x, days, 0xfff);
+        for (int task = 11; task >= 0; task--) {
+            if ((left >> task & 1) == 0) {
+                x.removeTask(task);
+            }
+        }
+        endAlike(x);
+    }
+
+    private static void grown(TaskLeveller x, int days, int left) {
+        for (int task = 0; task < 12; task++) {
+            if ((left >> task & 1) == 1) {
+                int index = x.addTask(1 + task % days, task % 3, 1 + task % 5, 0);
+                if (task % 4 > 0 && (left >> task - 1 & 1) == 1) {
+                    x.addDependency(index, index - 1);
+                }
+            }
+        }
+        endAlike(x);
+    }
+
+    /** Has a plan made and a baseline, and nothing to undo, whatever the way was. */
+    private static void endAlike(TaskLeveller x) {
+        x.takeBaseline();
+        x.save();
+        x.restore();
     }
 
     private static void setDuration() {
